@@ -342,7 +342,7 @@ public final class CopyReplace {
         return FINE;
     }
 
-    /** Adds the part of a row from start up to end to another row, matched by a statement's phrases, if there is one. */
+    /** Adds a part of a row, matched by a statement's phrases, to another row; without a statement all stays. */
     private int matchPart(Row row, int start, int end, Statement by, Row into) {
         int behind = start;
         for (int i = start; i < end; i++) {

@@ -165,7 +165,10 @@ public final class ModelTest {
     }
 
     private int oneOf(int count) {
-        return wrong() || count == 0 ? random.nextInt(120) - 5 : Math.max(1, count - random.nextInt(Math.min(count, 12)));
+        if (wrong() || count == 0) {
+            return random.nextInt(120) - 5;
+        }
+        return count - random.nextInt(Math.min(count, 12));
     }
 
     private int item() {

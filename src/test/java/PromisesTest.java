@@ -648,6 +648,22 @@ public final class PromisesTest {
         c.place("12: a word put once", z, 2, 1, 1, earlyWhole, 0, 1);
         c.place("12: a word not put", z, 3, 1, 2, 0, 0, 1);
         c.due("12: the phrases differ", early, 1);
+        placeOfTheLatestRun();
+    }
+
+    private static void placeOfTheLatestRun() {
+        CopyReplace x = new CopyReplace();
+        x.library(1);
+        tell(x, 1, "a");
+        int copy = x.copy(0, 1, true);
+        tell(x, 0, "b");
+        int p = tellPhrase(x, copy, 0, "a", "c d");
+        c.due("12: a first run", x.run(), 3);
+        c.place("12: put by the first run", x, 1, 1, 0, p, 1, 1);
+        x.from(p, w("z"));
+        c.due("12: a run in which the phrase does not match", x.run(), 2);
+        c.place("12: copied, not put", x, 0, 1, 0, 0, 1, 1);
+        c.place("12: nothing is left of the first run", x, 1, 0, 1, 0, 0, 0);
     }
 
     private static void ring() {
