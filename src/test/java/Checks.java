@@ -1,11 +1,25 @@
 /** Counts the answers that are not as due. */
 final class Checks {
     private int wrong = 0;
+    private String about = "";
+
+    /** What the checks from here on are of; it is told with each that is wrong. */
+    void about(String what) {
+        about = what + ": ";
+    }
 
     void due(String call, long got, long want) {
-        if (got != want) {
+        due(call, Long.toString(got), Long.toString(want));
+    }
+
+    void due(String call, boolean got, boolean want) {
+        due(call, Boolean.toString(got), Boolean.toString(want));
+    }
+
+    void due(String call, String got, String want) {
+        if (!got.equals(want)) {
             wrong++;
-            System.out.println(call + " answered " + got + ", due is " + want);
+            System.out.println(about + call + " answered " + got + ", due is " + want);
         }
     }
 

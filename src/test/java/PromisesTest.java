@@ -32,36 +32,26 @@ public final class PromisesTest {
         c.end();
     }
 
-    /** A word from its letters, 'a' being 1. */
     private static int w(String letters) {
-        int n = 0;
-        for (char letter : letters.toCharArray()) {
-            n = n * 27 + (letter - 'a' + 1);
-        }
-        return n;
+        return Letters.word(letters);
     }
 
-    /** Adds entries at a text's end: words by their letters, '.' a separator, '*' a comment. */
-    private static void tell(CopyReplace x, int text, String entries) {
-        for (String e : entries.split(" ")) {
-            x.word(text, number(e));
-        }
-    }
-
-    private static int number(String e) {
-        return e.equals(".") ? 0 : e.equals("*") ? -1 : w(e);
+    private static int number(String entry) {
+        return Letters.entry(entry);
     }
 
     private static int[] numbers(String entries) {
-        String[] parts = entries.split(" ");
-        int[] all = new int[parts.length];
-        for (int i = 0; i < parts.length; i++) {
-            all[i] = number(parts[i]);
-        }
-        return all;
+        return Letters.entries(entries);
     }
 
-    /** A phrase of a statement; a text of "" is no word. */
+    /** Adds entries at a text's end, told by letters. */
+    private static void tell(CopyReplace x, int text, String entries) {
+        for (int w : numbers(entries)) {
+            x.word(text, w);
+        }
+    }
+
+    /** A phrase of a statement, from and to what is told by letters. */
     private static int tellPhrase(CopyReplace x, int statement, int kind, String from, String to) {
         int p = 0;
         for (String e : from.split(" ")) {
@@ -71,10 +61,8 @@ public final class PromisesTest {
                 x.from(p, number(e));
             }
         }
-        if (!to.isEmpty()) {
-            for (String e : to.split(" ")) {
-                x.to(p, number(e));
-            }
+        for (int w : numbers(to)) {
+            x.to(p, w);
         }
         return p;
     }
@@ -86,7 +74,7 @@ public final class PromisesTest {
         tellPhrase(x, 1, kind, from, to);
         tell(x, 0, source);
         String what = "kind " + kind + " " + from + " -> " + to + " in " + source;
-        int[] row = want.isEmpty() ? new int[0] : numbers(want);
+        int[] row = numbers(want);
         c.due(what + ": run()", x.run(), row.length);
         c.row(what, x, row);
     }
