@@ -4,7 +4,6 @@ public final class TermsTest {
 
     public static void main(String[] args) {
         Sentences s = new Sentences();
-        s.test("What it is 2", "An object is used for at most 512 calls after it has been made", TermsTest::calls);
         s.test("Terms 1", "A WORD is of 1 .. 6 LETTERS", TermsTest::lettersOfAWord);
         s.test("Terms 1", "1 .. 26, as a number of base 27", TermsTest::letters);
         s.test("Terms 1", "the first letter highest", TermsTest::firstLetter);
@@ -31,28 +30,6 @@ public final class TermsTest {
         s.test("Terms 2", "what it is TO (no word or more;", TermsTest::toNoWordOrMore);
         s.test("Terms 2", "of 1, 2 one at most)", TermsTest::toOneWordAtMost);
         s.end("Terms 1", "Terms 2");
-    }
-
-    /** An object as full as it gets answers rightly up to its 512th call. */
-    private static void calls(Checks c) {
-        Subject x = new Subject();
-        x.libraries(12);
-        x.copies(0, 12, 30);
-        for (int k = 0; k < 30; k++) {
-            x.replace(0);
-        }
-        for (int p = 0; p < 100; p++) {
-            x.phrase(1 + p / 8, p % 3, 1);
-        }
-        x.tell(0, "b", 140);
-        x.tell(12, "c");
-        c.due("run()", x.run(), 170);
-        for (int i = 0; x.callsLeft() > 2; i++) {
-            int of = i % 170;
-            c.due("at(" + of + ") with " + x.callsLeft() + " calls left", x.at(of), of < 30 ? 3 : 2);
-        }
-        c.due("the 511th call, run()", x.run(), 170);
-        c.due("the 512th call, count(3)", x.count(3), 30);
     }
 
     private static void lettersOfAWord(Checks c) {
